@@ -1,0 +1,61 @@
+import java.nio.charset.StandardCharsets;
+
+/** Compares answers with those that are due, and feeds texts. */
+final class Due {
+    private final String name;
+    private int wrong = 0;
+    private int asked = 0;
+
+    Due(String name) {
+        this.name = name;
+    }
+
+    void is(String call, long got, long want) {
+        asked++;
+        if (got != want) {
+            wrong++;
+            System.out.println(name + ": " + call + " answered " + got + ", due is " + want);
+        }
+    }
+
+    void is(String call, boolean got, boolean want) {
+        is(call, got ? 1 : 0, want ? 1 : 0);
+    }
+
+    void end() {
+        System.out.println(name + ": " + asked + " answers, " + wrong + " wrong");
+        if (wrong != 0 || asked == 0) {
+            System.exit(1);
+        }
+    }
+
+    static byte[] bytes(String text) {
+        return text.getBytes(StandardCharsets.ISO_8859_1);
+    }
+
+    /** Five whole numbers of twenty bytes from a place on; blanks behind the end. */
+    static int[] words(byte[] bytes, int from) {
+        int[] words = new int[5];
+        for (int i = 0; i < 20; i++) {
+            int sign = from + i < bytes.length ? bytes[from + i] & 255 : 32;
+            words[i / 4] = (words[i / 4] << 8) | sign;
+        }
+        return words;
+    }
+
+    /** Feeds a text to an empty tape and reads it. */
+    static int tell(SolvedChains x, String text) {
+        feed(x, text);
+        return x.text();
+    }
+
+    static void feed(SolvedChains x, String text) {
+        byte[] bytes = bytes(text);
+        int before = x.about(9);
+        for (int i = 0; i < bytes.length; i += 20) {
+            int[] w = words(bytes, i);
+            x.feed(w[0], w[1], w[2], w[3], w[4]);
+        }
+        x.end(before + bytes.length);
+    }
+}
