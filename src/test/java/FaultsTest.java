@@ -68,6 +68,11 @@ public final class FaultsTest {
         fault("Sum;", 1, 0);
         fault("sums;", 1, 0);
         fault("su m;", 1, 0);
+        fault("az 1;", 1, 0);
+        fault("aZ 1;", 1, 0);
+        fault("aA 1;", 1, 0);
+        fault("a uz;", 1, 2);
+        fault("a uZ;", 1, 2);
         fault("  u;", 1, 2);
         fault("eta;", 1, 0);
         fault("d 1;", 1, 0);

@@ -977,6 +977,26 @@ public final class PromisesTest {
         is("so do those kept", x.at(0), 4);
         x.back();
         is("the image has its own prime", x.about(2), 13);
+        x.prime(97);
+        x.set(0);
+        for (int i = 0; i < 26; i++) {
+            x.act(2, 0);
+        }
+        x.prime(5);
+        for (int i = 0; i < 20; i++) {
+            x.undo();
+        }
+        is("the oldest, 64 by 5", x.at(0), 4);
+        x.prime(97);
+        is("the oldest stays taken", x.at(0), 4);
+        for (int i = 0; i < 20; i++) {
+            x.redo();
+        }
+        int latest = 1;
+        for (int i = 0; i < 26; i++) {
+            latest = latest * 2 % 97;
+        }
+        is("the latest redone, by 5", x.at(0), latest % 5);
     }
 
     private static void atAndNorm() {
