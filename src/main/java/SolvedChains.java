@@ -692,7 +692,7 @@ public final class SolvedChains {
         static final int MOST_NUMBER = 9999;
 
         private final int[] bytes = new int[ROOM];
-        private final int[] tokens = new int[ROOM + 1];
+        final int[] tokens = new int[ROOM + 1];
         private final int[] starts = new int[ROOM + 1];
         int length = 0;
 
@@ -703,10 +703,6 @@ public final class SolvedChains {
                     length++;
                 }
             }
-        }
-
-        int token(int i) {
-            return i >= 0 && i < tokens.length ? tokens[i] : END;
         }
 
         int start(int i) {
@@ -915,7 +911,7 @@ public final class SolvedChains {
                 case PLUS: return left(x + y, p);
                 case LESS: return left(x - y, p);
                 case TIMES: return left(x * y, p);
-                default: return over(x, y, p);
+                default: return left(x * raised(y, p - 2, p), p);
             }
         }
     }
@@ -948,25 +944,25 @@ public final class SolvedChains {
             script = empty;
             script.restart(readings);
             refusal = 0;
-            place = NONE;
             tape.split();
-            next = 0;
-            token = tape.token(0);
+            next = NONE;
+            advance();
             boolean sound = true;
             for (int i = 0; sound && token != Tape.END && i <= Script.MOST_CLAUSES; i++) {
                 sound = readClause();
             }
+            // No token is passed behind a refused one, so the next token is that one still.
+            place = sound ? NONE : tape.start(next);
             return sound;
         }
 
         private void advance() {
             next++;
-            token = tape.token(next);
+            token = next < tape.tokens.length ? tape.tokens[next] : Tape.END;
         }
 
         private boolean refuse(int why) {
             refusal = why;
-            place = tape.start(next);
             return false;
         }
 
