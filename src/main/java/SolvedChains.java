@@ -711,15 +711,14 @@ public final class SolvedChains {
 
         void split() {
             int many = 0;
-            int i = 0;
-            while (i < length) {
-                int stop = stopOf(i);
-                if (bytes[i] != 32 && bytes[i] != 10) {
+            int stop = 0;
+            for (int i = 0; i < length; i++) {
+                if (i >= stop && bytes[i] != 32 && bytes[i] != 10) {
+                    stop = stopOf(i);
                     starts[many] = i;
                     tokens[many] = tokenOf(i, stop);
                     many++;
                 }
-                i = stop;
             }
             starts[many] = length;
             tokens[many] = END;

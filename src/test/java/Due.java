@@ -5,16 +5,33 @@ final class Due {
     private final String name;
     private int wrong = 0;
     private int asked = 0;
+    private String sentence = "";
+    private int askedBefore = 0;
 
     Due(String name) {
         this.name = name;
+    }
+
+    /** What follows tests this sentence of the document; one without a single answer would be no test. */
+    void sentence(String told) {
+        closeSentence();
+        sentence = told;
+        askedBefore = asked;
+    }
+
+    private void closeSentence() {
+        if (!sentence.isEmpty() && asked == askedBefore) {
+            wrong++;
+            System.out.println(name + ": nothing was asked of [" + sentence + "]");
+        }
     }
 
     void is(String call, long got, long want) {
         asked++;
         if (got != want) {
             wrong++;
-            System.out.println(name + ": " + call + " answered " + got + ", due is " + want);
+            String of = sentence.isEmpty() ? "" : "[" + sentence + "] ";
+            System.out.println(name + ": " + of + call + " answered " + got + ", due is " + want);
         }
     }
 
@@ -23,6 +40,7 @@ final class Due {
     }
 
     void end() {
+        closeSentence();
         System.out.println(name + ": " + asked + " answers, " + wrong + " wrong");
         if (wrong != 0 || asked == 0) {
             System.exit(1);
