@@ -47,6 +47,22 @@ final class Due {
         }
     }
 
+    static SolvedChains made(int n, boolean ring, int p) {
+        SolvedChains x = new SolvedChains(n);
+        x.chain(n, ring);
+        x.prime(p);
+        return x;
+    }
+
+    /** x to the j by p, in the plainest way. */
+    static int raised(int x, int j, int p) {
+        int all = 1;
+        for (int i = 0; i < j; i++) {
+            all = all * x % p;
+        }
+        return all;
+    }
+
     static byte[] bytes(String text) {
         return text.getBytes(StandardCharsets.ISO_8859_1);
     }

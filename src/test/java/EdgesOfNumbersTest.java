@@ -40,13 +40,6 @@ public final class EdgesOfNumbersTest {
         DUE.is(call, got, want);
     }
 
-    private static SolvedChains made(int n, boolean ring, int p) {
-        SolvedChains x = new SolvedChains(n);
-        x.chain(n, ring);
-        x.prime(p);
-        return x;
-    }
-
     private static void lettersOfANewOne() {
         DUE.sentence("1: n LETTERS (2 .. 7; others: the nearest of these)");
         for (int n = 2; n <= 7; n++) {
@@ -214,7 +207,7 @@ public final class EdgesOfNumbersTest {
 
     /** P, ETA and D behind telling 97 with these and then another prime. */
     private static void taken(int eta, int d, int p, int dueEta, int dueD) {
-        SolvedChains x = made(2, true, 97);
+        SolvedChains x = Due.made(2, true, 97);
         x.numbers(eta, d);
         x.prime(p);
         String told = "ETA " + eta + ", D " + d + " by " + p;
@@ -244,7 +237,7 @@ public final class EdgesOfNumbersTest {
         taken(13, 13, 13, 1, 0);
         taken(1, 0, 5, 1, 0);
         DUE.sentence("taken by P as they are: a larger P brings nothing back");
-        SolvedChains x = made(2, true, 97);
+        SolvedChains x = Due.made(2, true, 97);
         x.numbers(20, 30);
         x.prime(7);
         x.prime(97);
@@ -263,7 +256,7 @@ public final class EdgesOfNumbersTest {
 
     /** 97 as P, the vector 2 to the 0, 1, .. 6 at state 0, of which the last two are undone. */
     private static SolvedChains powersOfTwo() {
-        SolvedChains x = made(2, true, 97);
+        SolvedChains x = Due.made(2, true, 97);
         x.set(0);
         for (int i = 0; i < 6; i++) {
             x.act(2, 0);
@@ -293,7 +286,7 @@ public final class EdgesOfNumbersTest {
             }
         }
         DUE.sentence("P told anew: the oldest and the latest of 20 are taken by P too");
-        SolvedChains x = made(2, true, 97);
+        SolvedChains x = Due.made(2, true, 97);
         x.set(0);
         for (int i = 0; i < 26; i++) {
             x.act(2, 0);
@@ -357,7 +350,7 @@ public final class EdgesOfNumbersTest {
     private static void rangeOfEta() {
         DUE.sentence("4: ETA (1 .. P - 1)");
         for (int p : new int[] {5, 7, 13, 97}) {
-            SolvedChains x = made(2, true, p);
+            SolvedChains x = Due.made(2, true, p);
             is("numbers(1, 0)", x.numbers(1, 0), true);
             is("ETA 1", x.about(3), 1);
             is("numbers(P - 1, 0)", x.numbers(p - 1, 0), true);
@@ -373,7 +366,7 @@ public final class EdgesOfNumbersTest {
     private static void rangeOfD() {
         DUE.sentence("4: D (0 .. P - 1)");
         for (int p : new int[] {5, 7, 13, 97}) {
-            SolvedChains x = made(2, true, p);
+            SolvedChains x = Due.made(2, true, p);
             is("numbers(2, P - 1)", x.numbers(2, p - 1), true);
             is("D P - 1", x.about(4), p - 1);
             is("numbers(2, 0)", x.numbers(2, 0), true);
@@ -394,7 +387,7 @@ public final class EdgesOfNumbersTest {
             Twin.leavesAll(DUE, "numbers(" + w[0] + ", " + w[1] + ")", x -> Twin.bit(x.numbers(w[0], w[1])), 0);
         }
         // The bounds are those of the P that holds.
-        SolvedChains x = made(2, true, 97);
+        SolvedChains x = Due.made(2, true, 97);
         is("96 by 97", x.numbers(96, 96), true);
         x.prime(5);
         is("5 by 5", x.numbers(5, 0), false);
@@ -404,7 +397,7 @@ public final class EdgesOfNumbersTest {
     private static void quotients() {
         DUE.sentence("x / y is that times y which leaves x");
         for (int p : new int[] {5, 7, 13}) {
-            SolvedChains x = made(2, true, p);
+            SolvedChains x = Due.made(2, true, p);
             x.by(Due.tell(x, "a u/d;"));
             for (int y = 1; y < p; y++) {
                 x.numbers(1, y);
@@ -414,7 +407,7 @@ public final class EdgesOfNumbersTest {
             }
         }
         for (int y : new int[] {1, 2, 48, 49, 95, 96}) {
-            SolvedChains x = made(2, true, 97);
+            SolvedChains x = Due.made(2, true, 97);
             x.by(Due.tell(x, "a u/d;"));
             x.numbers(1, y);
             for (int u = 0; u < 97; u++) {
@@ -423,7 +416,7 @@ public final class EdgesOfNumbersTest {
         }
         DUE.sentence("x / y is 0, if y is 0");
         for (int p : new int[] {5, 7, 13, 97}) {
-            SolvedChains x = made(2, true, p);
+            SolvedChains x = Due.made(2, true, p);
             x.numbers(1, 0);
             x.by(Due.tell(x, "a u/d; b 1/u; c 1+2/(u-u);"));
             for (int u = 0; u < p; u++) {
@@ -465,7 +458,7 @@ public final class EdgesOfNumbersTest {
         DUE.sentence("BONDS: of LETTERS i, i + 1, and on a RING of n - 1, 0 as well");
         for (int n = 2; n <= 7; n++) {
             for (int ring = 0; ring < 2; ring++) {
-                SolvedChains x = made(n, ring == 1, 97);
+                SolvedChains x = Due.made(n, ring == 1, 97);
                 is("bonds of " + n, x.sum(0, 0), n - 1 + ring);
                 for (int i = 0; i < n; i++) {
                     for (int k = 0; k < n; k++) {
@@ -482,7 +475,7 @@ public final class EdgesOfNumbersTest {
 
     private static void twoLetters() {
         DUE.sentence("also if n is 2: two BONDS then");
-        SolvedChains x = made(2, true, 97);
+        SolvedChains x = Due.made(2, true, 97);
         x.numbers(1, 10);
         is("both up", x.sum(3, 3), 20);
         is("both down", x.sum(0, 0), 20);
@@ -498,7 +491,7 @@ public final class EdgesOfNumbersTest {
 
     private static void theSum() {
         DUE.sentence("THE SUM: D times it, if both LETTERS are alike, else the STATE with both exchanged");
-        SolvedChains x = made(3, true, 97);
+        SolvedChains x = Due.made(3, true, 97);
         for (int d : new int[] {0, 1, 2, 96}) {
             x.numbers(1, d);
             is("three alike", x.sum(7, 7), 3 * d % 97);
@@ -507,14 +500,14 @@ public final class EdgesOfNumbersTest {
             is("an exchange has no D", x.sum(3, 6), 1);
         }
         DUE.sentence("all together; sums are what P leaves of them");
-        x = made(7, true, 5);
+        x = Due.made(7, true, 5);
         is("seven bonds by 5", x.sum(127, 127), 2);
         x.numbers(1, 4);
         is("28 by 5", x.sum(0, 0), 3);
-        x = made(5, true, 5);
+        x = Due.made(5, true, 5);
         is("five bonds by 5", x.sum(0, 0), 0);
         DUE.sentence("SUM(x, y): how much of STATE y comes of STATE x");
-        x = made(4, false, 97);
+        x = Due.made(4, false, 97);
         x.numbers(1, 10);
         is("0011 to itself", x.sum(3, 3), 20);
         is("0011 to 0101", x.sum(3, 5), 1);
@@ -526,7 +519,7 @@ public final class EdgesOfNumbersTest {
     private static void sumOfOthers() {
         DUE.sentence("12: NONE for others");
         for (int n = 2; n <= 7; n++) {
-            SolvedChains x = made(n, n % 2 == 0, 13);
+            SolvedChains x = Due.made(n, n % 2 == 0, 13);
             int last = (1 << n) - 1;
             is("the last of both", x.sum(last, last), n % 2 == 0 ? n : n - 1);
             for (int wrong : new int[] {last + 1, -1, -2, LEAST, MOST}) {

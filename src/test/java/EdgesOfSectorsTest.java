@@ -42,43 +42,28 @@ public final class EdgesOfSectorsTest {
         DUE.is(call, got, want);
     }
 
-    private static SolvedChains made(int n, boolean ring, int p) {
-        SolvedChains x = new SolvedChains(n);
-        x.chain(n, ring);
-        x.prime(p);
-        return x;
-    }
-
     private static int choose(int n, int m) {
         return m < 0 || m > n ? 0 : m == 0 ? 1 : choose(n - 1, m - 1) * n / m;
-    }
-
-    private static int raised(int x, int j, int p) {
-        int all = 1;
-        for (int i = 0; i < j; i++) {
-            all = all * x % p;
-        }
-        return all;
     }
 
     private static void sizes() {
         DUE.sentence("III: SECTOR of a COUNT m: all STATES of it. SIZE: how many");
         for (int n = 2; n <= 7; n++) {
             for (int m = 0; m <= n; m++) {
-                is("size(" + m + ") of " + n, made(n, true, 13).size(m, NONE), choose(n, m));
-                is("size(" + m + ") of open " + n, made(n, false, 13).size(m, NONE), choose(n, m));
+                is("size(" + m + ") of " + n, Due.made(n, true, 13).size(m, NONE), choose(n, m));
+                is("size(" + m + ") of open " + n, Due.made(n, false, 13).size(m, NONE), choose(n, m));
             }
         }
         DUE.sentence("III: (a count, not by P; SIZE likewise)");
-        is("35 by 5", made(7, true, 5).size(3, NONE), 35);
-        is("35 by 7", made(7, true, 7).size(4, NONE), 35);
-        is("5 by 5", made(5, true, 5).size(1, NONE), 5);
-        is("20 by 7", made(6, true, 7).size(3, NONE), 20);
+        is("35 by 5", Due.made(7, true, 5).size(3, NONE), 35);
+        is("35 by 7", Due.made(7, true, 7).size(4, NONE), 35);
+        is("5 by 5", Due.made(5, true, 5).size(1, NONE), 5);
+        is("20 by 7", Due.made(6, true, 7).size(3, NONE), 20);
     }
 
     private static void turns(int n, int p, int m, int... due) {
         for (int ring = 0; ring < 2; ring++) {
-            SolvedChains x = made(n, ring == 1, p);
+            SolvedChains x = Due.made(n, ring == 1, p);
             for (int k = 0; k < due.length; k++) {
                 is("size(" + m + ", " + k + ") of " + n + " by " + p, x.size(m, k), due[k]);
             }
@@ -104,7 +89,7 @@ public final class EdgesOfSectorsTest {
         DUE.sentence("III: TURN k (0 .. n - 1)");
         int[][] rooted = {{2, 5}, {3, 7}, {4, 5}, {5, 11}, {6, 7}, {7, 29}};
         for (int[] w : rooted) {
-            SolvedChains x = made(w[0], true, w[1]);
+            SolvedChains x = Due.made(w[0], true, w[1]);
             is("turn 0 of " + w[0], x.size(1, 0), 1);
             is("turn n - 1 of " + w[0], x.size(1, w[0] - 1), 1);
             for (int wrong : new int[] {w[0], -2, w[0] + 1, LEAST, MOST}) {
@@ -118,7 +103,7 @@ public final class EdgesOfSectorsTest {
         DUE.sentence("16: NONE for a TURN without ROOT");
         for (int n = 2; n <= 7; n++) {
             for (int p : PRIMES) {
-                SolvedChains x = made(n, true, p);
+                SolvedChains x = Due.made(n, true, p);
                 boolean rooted = (p - 1) % n == 0;
                 is("turn 0 of " + n + " by " + p, x.size(0, 0), rooted ? 1 : NONE);
                 is("turn n - 1 of " + n + " by " + p, x.size(0, n - 1), rooted ? 0 : NONE);
@@ -129,7 +114,7 @@ public final class EdgesOfSectorsTest {
         }
         DUE.sentence("III: TURN, if there is a ROOT and n isn't 0 by P");
         for (int n : new int[] {5, 7}) {
-            SolvedChains x = made(n, true, n);
+            SolvedChains x = Due.made(n, true, n);
             for (int k = 0; k < n; k++) {
                 is("turn " + k + " of " + n + " by " + n, x.size(1, k), NONE);
                 is("poly of turn " + k + " of " + n + " by " + n, x.poly(1, k, 0), NONE);
@@ -141,7 +126,7 @@ public final class EdgesOfSectorsTest {
     private static void sizesOfOthers() {
         DUE.sentence("16: NONE for others");
         for (int n = 2; n <= 7; n++) {
-            SolvedChains x = made(n, n % 2 == 0, n == 7 ? 29 : n == 5 ? 11 : 13);
+            SolvedChains x = Due.made(n, n % 2 == 0, n == 7 ? 29 : n == 5 ? 11 : 13);
             is("size(n) of " + n, x.size(n, NONE), 1);
             is("size(n, 0) of " + n, x.size(n, 0), 1);
             for (int wrong : new int[] {n + 1, -1, -2, LEAST, MOST}) {
@@ -159,26 +144,26 @@ public final class EdgesOfSectorsTest {
     private static void traces() {
         DUE.sentence("III: TRACE of a power j (0 .. 99) of THE SUM");
         // With one up of three on a ring and D 1, THE SUM is all ones: own numbers 3, 0, 0.
-        SolvedChains x = made(3, true, 97);
+        SolvedChains x = Due.made(3, true, 97);
         for (int j = 1; j <= 99; j++) {
-            is("trace(1, " + j + ")", x.trace(1, j), raised(3, j, 97));
+            is("trace(1, " + j + ")", x.trace(1, j), Due.raised(3, j, 97));
         }
-        x = made(2, false, 97);
+        x = Due.made(2, false, 97);
         x.numbers(1, 5);
         is("own numbers 1, -1, power 98", x.trace(1, 98), 2);
         is("own numbers 1, -1, power 99", x.trace(1, 99), 0);
-        is("own number 5, power 99", x.trace(0, 99), raised(5, 99, 97));
-        is("own number 5, power 99", x.trace(2, 99), raised(5, 99, 97));
+        is("own number 5, power 99", x.trace(0, 99), Due.raised(5, 99, 97));
+        is("own number 5, power 99", x.trace(2, 99), Due.raised(5, 99, 97));
         DUE.sentence("III: of power 0: SIZE, by P");
         for (int n = 2; n <= 7; n++) {
             for (int m = 0; m <= n; m++) {
                 for (int p : new int[] {5, 7, 97}) {
-                    is("trace(" + m + ", 0) of " + n, made(n, true, p).trace(m, 0), choose(n, m) % p);
+                    is("trace(" + m + ", 0) of " + n, Due.made(n, true, p).trace(m, 0), choose(n, m) % p);
                 }
             }
         }
         DUE.sentence("III: TRACE where THE SUM is 0: power 0 isn't");
-        x = made(2, false, 13);
+        x = Due.made(2, false, 13);
         x.numbers(1, 0);
         is("power 0", x.trace(0, 0), 1);
         is("power 1", x.trace(0, 1), 0);
@@ -188,7 +173,7 @@ public final class EdgesOfSectorsTest {
     private static void tracesOfOthers() {
         DUE.sentence("17: NONE for others");
         for (int n = 2; n <= 7; n++) {
-            SolvedChains x = made(n, n % 2 == 1, 13);
+            SolvedChains x = Due.made(n, n % 2 == 1, 13);
             x.numbers(1, 0);
             is("trace(0, 99)", x.trace(0, 99), 0);
             is("trace(n, 99)", x.trace(n, 99), 0);
@@ -211,7 +196,7 @@ public final class EdgesOfSectorsTest {
         for (int n = 2; n <= 7; n++) {
             for (int ring = 0; ring < 2; ring++) {
                 for (int m = 0; m <= n; m++) {
-                    SolvedChains x = made(n, ring == 1, 13);
+                    SolvedChains x = Due.made(n, ring == 1, 13);
                     int size = choose(n, m);
                     String told = " of SECTOR " + m + " of " + n;
                     is("the last" + told, x.poly(m, NONE, size), 1);
@@ -224,7 +209,7 @@ public final class EdgesOfSectorsTest {
             }
         }
         DUE.sentence("III: the determinant of z less THE SUM");
-        SolvedChains x = made(2, true, 13);
+        SolvedChains x = Due.made(2, true, 13);
         x.numbers(1, 5);
         is("z - 10", x.poly(2, NONE, 0), 3);
         is("z z - 4: z to the 0", x.poly(1, NONE, 0), 9);
@@ -237,7 +222,7 @@ public final class EdgesOfSectorsTest {
         x.chain(2, false);
         is("open, z z - 1", x.poly(1, NONE, 0), 12);
         is("open, z - 5", x.poly(0, NONE, 0), 8);
-        x = made(5, true, 5);
+        x = Due.made(5, true, 5);
         // By 5 SHIFT less 1 is nilpotent, so one up of five has 5 = 0 five times: z to the 5.
         for (int i = 0; i < 5; i++) {
             is("z to the 5: " + i, x.poly(1, NONE, i), 0);
@@ -249,7 +234,7 @@ public final class EdgesOfSectorsTest {
         int[][] rooted = {{2, 5}, {3, 7}, {4, 5}, {5, 11}, {6, 7}, {7, 29}};
         for (int[] w : rooted) {
             for (int m = 0; m <= w[0]; m++) {
-                SolvedChains x = made(w[0], true, w[1]);
+                SolvedChains x = Due.made(w[0], true, w[1]);
                 for (int k = 0; k < w[0]; k++) {
                     int size = x.size(m, k);
                     String told = " of turn " + k + " of SECTOR " + m + " of " + w[0];
@@ -260,7 +245,7 @@ public final class EdgesOfSectorsTest {
             }
         }
         DUE.sentence("III: POLYNOMIAL of a TURN without STATES is 1");
-        SolvedChains x = made(6, true, 7);
+        SolvedChains x = Due.made(6, true, 7);
         for (int k = 1; k < 6; k++) {
             is("size of turn " + k, x.size(0, k), 0);
             is("z to the 0 of turn " + k, x.poly(0, k, 0), 1);
@@ -272,10 +257,10 @@ public final class EdgesOfSectorsTest {
         for (int[] w : rooted) {
             int n = w[0];
             int p = w[1];
-            SolvedChains y = made(n, true, p);
+            SolvedChains y = Due.made(n, true, p);
             for (int k = 0; k < n; k++) {
-                int turn = raised(y.root(), k, p);
-                int back = raised(y.root(), n - k, p);
+                int turn = Due.raised(y.root(), k, p);
+                int back = Due.raised(y.root(), n - k, p);
                 is("turn " + k + " of one up of " + n, y.poly(1, k, 0), Math.floorMod(-(n - 2 + turn + back), p));
             }
         }
@@ -285,7 +270,7 @@ public final class EdgesOfSectorsTest {
         DUE.sentence("18: NONE for a TURN of an OPEN chain");
         int[][] rooted = {{2, 5}, {3, 7}, {4, 5}, {5, 11}, {6, 7}, {7, 29}};
         for (int[] w : rooted) {
-            SolvedChains x = made(w[0], false, w[1]);
+            SolvedChains x = Due.made(w[0], false, w[1]);
             for (int k = 0; k < w[0]; k++) {
                 is("turn " + k + " of open " + w[0], x.poly(1, k, 0), NONE);
                 is("turn " + k + " of open " + w[0], x.poly(0, k, 0), NONE);
@@ -295,7 +280,7 @@ public final class EdgesOfSectorsTest {
         }
         DUE.sentence("18: NONE for others, without ROOT");
         for (int n = 2; n <= 7; n++) {
-            SolvedChains x = made(n, true, n == 7 ? 29 : n == 5 ? 11 : 13);
+            SolvedChains x = Due.made(n, true, n == 7 ? 29 : n == 5 ? 11 : 13);
             for (int wrong : new int[] {n + 1, -1, LEAST, MOST}) {
                 is("poly(" + wrong + ", NONE, 0)", x.poly(wrong, NONE, 0), NONE);
                 is("poly(" + wrong + ", 0, 0)", x.poly(wrong, 0, 0), NONE);
@@ -304,7 +289,7 @@ public final class EdgesOfSectorsTest {
                 is("poly(1, " + wrong + ", 0)", x.poly(1, wrong, 0), NONE);
             }
         }
-        SolvedChains x = made(3, true, 5);
+        SolvedChains x = Due.made(3, true, 5);
         for (int k = 0; k < 3; k++) {
             is("three by 5, turn " + k, x.poly(1, k, 0), NONE);
         }
@@ -328,7 +313,7 @@ public final class EdgesOfSectorsTest {
 
     private static void ownNumbers() {
         DUE.sentence("19: OWN NUMBERS of a SECTOR: how many unlike ones (i NONE), the i-th, from 0 on");
-        SolvedChains x = made(3, true, 13);
+        SolvedChains x = Due.made(3, true, 13);
         owns(x, 0, 3);
         owns(x, 1, 0, 3);
         owns(x, 2, 0, 3);
@@ -336,19 +321,19 @@ public final class EdgesOfSectorsTest {
         x.numbers(1, 12);
         // D - 1 and D + 2.
         owns(x, 1, 1, 11);
-        x = made(2, true, 5);
+        x = Due.made(2, true, 5);
         owns(x, 1, 2, 3);
         x.numbers(1, 2);
         owns(x, 0, 4);
         x.numbers(1, 0);
         owns(x, 0, 0);
         DUE.sentence("III: how many unlike ones: one that comes often counts once");
-        owns(made(5, true, 5), 1, 0);
+        owns(Due.made(5, true, 5), 1, 0);
     }
 
     /** One up of four with open ends and D 0: z^4 - 3 z^2 + 1, of z z - z - 1 and z z + z - 1; 5 is no square by 7. */
     private static SolvedChains withoutOwn() {
-        SolvedChains x = made(4, false, 7);
+        SolvedChains x = Due.made(4, false, 7);
         x.numbers(1, 0);
         return x;
     }
@@ -372,7 +357,7 @@ public final class EdgesOfSectorsTest {
     private static void ownOfOthers() {
         DUE.sentence("19: NONE for others");
         for (int n = 2; n <= 7; n++) {
-            SolvedChains x = made(n, n % 2 == 1, 13);
+            SolvedChains x = Due.made(n, n % 2 == 1, 13);
             is("own(0, NONE)", x.own(0, NONE), 1);
             is("own(n, NONE)", x.own(n, NONE), 1);
             for (int wrong : new int[] {n + 1, -1, -2, LEAST, MOST}) {
@@ -388,22 +373,22 @@ public final class EdgesOfSectorsTest {
 
     private static void howOften() {
         DUE.sentence("20: How often a NUMBER is an OWN one of a SECTOR (0: it is none)");
-        SolvedChains x = made(3, true, 13);
+        SolvedChains x = Due.made(3, true, 13);
         int[] due = {2, 0, 0, 1, 0, 0, 0, 0, 0, 0, 0, 0, 0};
         for (int number = 0; number < 13; number++) {
             is("often(1, " + number + ")", x.often(1, number), due[number]);
             is("often(0, " + number + ")", x.often(0, number), number == 3 ? 1 : 0);
         }
         DUE.sentence("III: how often: by how many (z less it) it can be divided");
-        x = made(5, true, 5);
+        x = Due.made(5, true, 5);
         is("five times", x.often(1, 0), 5);
         is("no other", x.often(1, 1), 0);
         is("no other", x.often(1, 4), 0);
-        x = made(7, true, 7);
+        x = Due.made(7, true, 7);
         is("seven times", x.often(1, 0), 7);
         is("seven times", x.often(6, 0), 7);
         is("once", x.often(7, 0), 1);
-        x = made(2, false, 5);
+        x = Due.made(2, false, 5);
         is("1 once", x.often(1, 1), 1);
         is("P - 1 once", x.often(1, 4), 1);
         is("0 never", x.often(1, 0), 0);
@@ -413,7 +398,7 @@ public final class EdgesOfSectorsTest {
         DUE.sentence("20: NONE for others");
         for (int n = 2; n <= 7; n++) {
             for (int p : new int[] {5, 97}) {
-                SolvedChains x = made(n, true, p);
+                SolvedChains x = Due.made(n, true, p);
                 x.numbers(1, 0);
                 is("often(0, 0)", x.often(0, 0), 1);
                 is("often(n, P - 1)", x.often(n, p - 1), 0);
@@ -438,14 +423,14 @@ public final class EdgesOfSectorsTest {
                 int due = NONE;
                 for (int x = p - 1; x > 0; x--) {
                     int order = 1;
-                    while (raised(x, order, p) != 1) {
+                    while (Due.raised(x, order, p) != 1) {
                         order++;
                     }
                     due = order == n ? x : due;
                 }
                 is("a multiple of n below P tells it", due != NONE ? 1 : 0, (p - 1) % n == 0 ? 1 : 0);
-                is("root of " + n + " by " + p, made(n, true, p).root(), due);
-                is("root of open " + n + " by " + p, made(n, false, p).root(), due);
+                is("root of " + n + " by " + p, Due.made(n, true, p).root(), due);
+                is("root of open " + n + " by " + p, Due.made(n, false, p).root(), due);
             }
         }
         DUE.sentence("21: asked, it changes nothing");
@@ -459,7 +444,7 @@ public final class EdgesOfSectorsTest {
         DUE.sentence("22: MEAN at a distance r (1 .. n - 1)");
         for (int n = 2; n <= 7; n++) {
             for (int ring = 0; ring < 2; ring++) {
-                SolvedChains x = made(n, ring == 1, 97);
+                SolvedChains x = Due.made(n, ring == 1, 97);
                 for (int m = 0; m <= n; m++) {
                     for (int r = 1; r < n; r++) {
                         // Each i: the other n - 2 letters have m up, or m - 2 if both of these are.
@@ -470,15 +455,15 @@ public final class EdgesOfSectorsTest {
             }
         }
         DUE.sentence("III: (a count, not by P)");
-        is("105 by 5", made(7, true, 5).mean(3, 1), 105);
-        is("105 by 97", made(7, true, 97).mean(4, 6), 105);
-        is("5 by 5", made(5, true, 5).mean(0, 4), 5);
+        is("105 by 5", Due.made(7, true, 5).mean(3, 1), 105);
+        is("105 by 97", Due.made(7, true, 97).mean(4, 6), 105);
+        is("5 by 5", Due.made(5, true, 5).mean(0, 4), 5);
     }
 
     private static void meansOfOthers() {
         DUE.sentence("22: NONE for others");
         for (int n = 2; n <= 7; n++) {
-            SolvedChains x = made(n, n % 2 == 0, 13);
+            SolvedChains x = Due.made(n, n % 2 == 0, 13);
             is("mean(0, 1)", x.mean(0, 1), n);
             is("mean(n, n - 1)", x.mean(n, n - 1), n);
             for (int wrong : new int[] {0, n, -1, n + 1, LEAST, MOST}) {
@@ -499,13 +484,13 @@ public final class EdgesOfSectorsTest {
         for (int n = 2; n <= 7; n++) {
             for (int p : new int[] {5, 13, 97}) {
                 for (int eta : new int[] {1, 3, p - 1}) {
-                    SolvedChains x = made(n, true, p);
+                    SolvedChains x = Due.made(n, true, p);
                     x.numbers(eta, 0);
                     String told = " of " + n + " by " + p + ", ETA " + eta;
                     is("how many" + told, x.pair(0, NONE, 0), 1);
                     is("Q" + told, x.pair(0, 0, 0), 1);
                     for (int j = 0; j <= n; j++) {
-                        int due = choose(n, j) * raised(eta, n - j, p) + (j == n ? 1 : 0);
+                        int due = choose(n, j) * Due.raised(eta, n - j, p) + (j == n ? 1 : 0);
                         is("T " + j + told, x.pair(0, 0, 10 + j), due % p);
                     }
                     is("behind T" + told, x.pair(0, 0, 11 + n), NONE);
@@ -528,7 +513,7 @@ public final class EdgesOfSectorsTest {
         for (int n = 2; n <= 7; n++) {
             for (int p : new int[] {5, 7, 11, 13, 29, 97}) {
                 for (int eta : new int[] {1, 2, p - 1}) {
-                    SolvedChains x = made(n, n % 2 == 0, p);
+                    SolvedChains x = Due.made(n, n % 2 == 0, p);
                     x.numbers(eta, 3);
                     pairsOfOne(x, n, p, eta);
                 }
@@ -540,14 +525,14 @@ public final class EdgesOfSectorsTest {
         String told = " of " + n + " by " + p + ", ETA " + eta;
         int many = 0;
         for (int q = 1; q < p; q++) {
-            int w = Math.floorMod(1 - eta * raised(q, p - 2, p), p);
-            if (raised(w, n, p) == 1) {
+            int w = Math.floorMod(1 - eta * Due.raised(q, p - 2, p), p);
+            if (Due.raised(w, n, p) == 1) {
                 is("Q" + told, x.pair(1, many, 0), q);
                 is("z of Q" + told, x.pair(1, many, 1), 1);
                 is("behind Q" + told, x.pair(1, many, 2), NONE);
                 is("the last of T" + told, x.pair(1, many, 10 + n), 2);
                 is("behind T" + told, x.pair(1, many, 11 + n), NONE);
-                is("ENERGY" + told, x.pair(1, many, 30), (n - 2 + w + raised(w, p - 2, p)) % p);
+                is("ENERGY" + told, x.pair(1, many, 30), (n - 2 + w + Due.raised(w, p - 2, p)) % p);
                 is("MOVE" + told, x.pair(1, many, 31), w);
                 is("TRUE" + told, x.pair(1, many, 32), 1);
                 many++;
@@ -564,7 +549,7 @@ public final class EdgesOfSectorsTest {
         DUE.sentence("IV: PAIRS for m 2: in order of the coefficient of z to the m - 1, then lower");
         for (int n = 2; n <= 7; n++) {
             for (int p : new int[] {5, 7, 13, 19}) {
-                SolvedChains x = made(n, true, p);
+                SolvedChains x = Due.made(n, true, p);
                 x.numbers(p - 1, 2);
                 int many = x.pair(2, NONE, 0);
                 int before = -1;
@@ -590,7 +575,7 @@ public final class EdgesOfSectorsTest {
         }
         DUE.sentence("IV: PAIRS for m 2 of two LETTERS: one for each coefficient, 0 .. P - 1");
         // 2 ETA z z + 2 ETA c z + .. is to be divided by z z + c z + q: q is (c ETA - ETA ETA) / 2.
-        SolvedChains x = made(2, true, 13);
+        SolvedChains x = Due.made(2, true, 13);
         x.numbers(3, 1);
         is("how many", x.pair(2, NONE, 0), 13);
         for (int c = 0; c < 13; c++) {
@@ -604,7 +589,7 @@ public final class EdgesOfSectorsTest {
         DUE.sentence("IV: PAIRS that are none: 0 of them, and the first is NONE");
         int[][] none = {{3, 5}, {5, 5}, {5, 7}, {7, 7}, {7, 13}, {7, 97}};
         for (int[] w : none) {
-            SolvedChains x = made(w[0], true, w[1]);
+            SolvedChains x = Due.made(w[0], true, w[1]);
             is("how many of " + w[0] + " by " + w[1], x.pair(1, NONE, 0), 0);
             for (int j : new int[] {0, 1, 2, 10, 10 + w[0], 30, 31, 32}) {
                 is("pair(1, 0, " + j + ") of " + w[0] + " by " + w[1], x.pair(1, 0, j), NONE);
@@ -615,14 +600,14 @@ public final class EdgesOfSectorsTest {
     private static void energies() {
         DUE.sentence("IV: TRUE: whether ENERGY is one of the OWN NUMBERS of SECTOR m with D 1 on a RING");
         // z (z + 1) of three letters: ENERGY 1, but two up of three have 0 and 3 alone.
-        SolvedChains x = made(3, true, 13);
+        SolvedChains x = Due.made(3, true, 13);
         is("how many", x.pair(2, NONE, 0), 1);
         is("ENERGY", x.pair(2, 0, 30), 1);
         is("it is none", x.pair(2, 0, 32), 0);
         x.numbers(1, 2);
         is("D 2 has it as an OWN NUMBER", x.often(2, 1), 2);
         is("but D 1 counts", x.pair(2, 0, 32), 0);
-        x = made(4, true, 13);
+        x = Due.made(4, true, 13);
         is("D 1", x.pair(1, 0, 32), 1);
         x.numbers(1, 6);
         is("another D doesn't count", x.pair(1, 0, 32), 1);
@@ -638,7 +623,7 @@ public final class EdgesOfSectorsTest {
         DUE.sentence("23: j 0 .. m: Q's coefficient; 10 + j (j 0 .. n): T's; 30, 31, 32");
         for (int n = 2; n <= 7; n++) {
             for (int m = 0; m <= 2; m++) {
-                SolvedChains x = made(n, true, n == 7 ? 29 : n == 5 ? 11 : 13);
+                SolvedChains x = Due.made(n, true, n == 7 ? 29 : n == 5 ? 11 : 13);
                 for (int j = -2; j <= 40; j++) {
                     boolean told = (j >= 0 && j <= m) || (j >= 10 && j <= 10 + n) || (j >= 30 && j <= 32);
                     DUE.is("pair(" + m + ", 0, " + j + ") of " + n, x.pair(m, 0, j) != NONE, told);
@@ -655,7 +640,7 @@ public final class EdgesOfSectorsTest {
     private static void pairsOfOthers() {
         DUE.sentence("IV: m (0 .. 2)");
         for (int n = 2; n <= 7; n++) {
-            SolvedChains x = made(n, true, 13);
+            SolvedChains x = Due.made(n, true, 13);
             is("m 0", x.pair(0, NONE, 0), 1);
             DUE.is("m 2", x.pair(2, NONE, 0) > 0, true);
             for (int wrong : new int[] {3, -1, -2, 4, LEAST, MOST}) {
@@ -665,7 +650,7 @@ public final class EdgesOfSectorsTest {
             }
         }
         DUE.sentence("23: how many (i NONE), whatever j; NONE for others");
-        SolvedChains x = made(4, true, 13);
+        SolvedChains x = Due.made(4, true, 13);
         for (int j : new int[] {0, 1, 9, 30, 33, -1, LEAST, MOST}) {
             is("pair(1, NONE, " + j + ")", x.pair(1, NONE, j), 3);
         }

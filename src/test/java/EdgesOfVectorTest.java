@@ -49,30 +49,15 @@ public final class EdgesOfVectorTest {
         DUE.is(call, got, want);
     }
 
-    private static SolvedChains made(int n, boolean ring, int p) {
-        SolvedChains x = new SolvedChains(n);
-        x.chain(n, ring);
-        x.prime(p);
-        return x;
-    }
-
     private static void vector(String told, SolvedChains x, int... due) {
         for (int s = 0; s < due.length; s++) {
             is(told + ": at(" + s + ")", x.at(s), due[s]);
         }
     }
 
-    private static int raised(int x, int j, int p) {
-        int all = 1;
-        for (int i = 0; i < j; i++) {
-            all = all * x % p;
-        }
-        return all;
-    }
-
     /** Two letters by 97 whose vector at state 0 is 2 to the number of acts. */
     private static SolvedChains doubled(int acts) {
-        SolvedChains x = made(2, true, 97);
+        SolvedChains x = Due.made(2, true, 97);
         x.set(0);
         for (int i = 0; i < acts; i++) {
             x.act(2, 0);
@@ -83,7 +68,7 @@ public final class EdgesOfVectorTest {
     private static void set() {
         DUE.sentence("24: THE VECTOR is 1 at a STATE, else 0: true");
         for (int n = 2; n <= 7; n++) {
-            SolvedChains x = made(n, true, 13);
+            SolvedChains x = Due.made(n, true, 13);
             int last = (1 << n) - 1;
             for (int state : new int[] {0, last, 1, last - 1}) {
                 is("set(" + state + ") of " + n, x.set(state), true);
@@ -119,7 +104,7 @@ public final class EdgesOfVectorTest {
     private static void setOfOthers() {
         DUE.sentence("24: False for others");
         for (int n = 2; n <= 7; n++) {
-            SolvedChains x = made(n, false, 13);
+            SolvedChains x = Due.made(n, false, 13);
             x.set(1);
             x.act(0, 0);
             x.act(0, 0);
@@ -143,7 +128,7 @@ public final class EdgesOfVectorTest {
         DUE.sentence("III: SHIFT: each LETTER i comes to i + 1 (the last one to 0)");
         for (int n = 2; n <= 7; n++) {
             for (int ring = 0; ring < 2; ring++) {
-                SolvedChains x = made(n, ring == 1, 13);
+                SolvedChains x = Due.made(n, ring == 1, 13);
                 for (int i = 0; i < n; i++) {
                     x.set(1 << i);
                     x.act(0, 0);
@@ -166,7 +151,7 @@ public final class EdgesOfVectorTest {
     private static void turned() {
         DUE.sentence("V: 1 a LETTER is turned (up to down, down to up); 25: v: the LETTER");
         for (int n = 2; n <= 7; n++) {
-            SolvedChains x = made(n, true, 13);
+            SolvedChains x = Due.made(n, true, 13);
             for (int i = 0; i < n; i++) {
                 x.set(0);
                 is("LETTER " + i + " of " + n, x.act(1, i), true);
@@ -187,7 +172,7 @@ public final class EdgesOfVectorTest {
 
     private static void theSum() {
         DUE.sentence("V: 2 THE SUM: of ring and open ends, by P");
-        SolvedChains x = made(3, true, 13);
+        SolvedChains x = Due.made(3, true, 13);
         x.numbers(1, 12);
         x.set(1);
         is("act(2)", x.act(2, 0), true);
@@ -205,7 +190,7 @@ public final class EdgesOfVectorTest {
         x.set(3);
         x.act(2, 0);
         vector("two letters up", x, 0, 0, 0, 24 % 13);
-        x = made(5, true, 5);
+        x = Due.made(5, true, 5);
         x.set(0);
         x.act(2, 0);
         is("five by 5", x.norm(), 0);
@@ -215,7 +200,7 @@ public final class EdgesOfVectorTest {
     private static void theTable() {
         DUE.sentence("V: 3 THE TABLE for u; 25: v: u of 3 (0 .. P - 1)");
         for (int p : new int[] {5, 13, 97}) {
-            SolvedChains x = made(3, false, p);
+            SolvedChains x = Due.made(3, false, p);
             x.by(Due.tell(x, "a 2+u; b 3; c 5-u;"));
             for (int u : new int[] {0, 1, p - 1}) {
                 for (int state : new int[] {0, 5, 7}) {
@@ -236,7 +221,7 @@ public final class EdgesOfVectorTest {
     private static void whateverV() {
         DUE.sentence("25: of others it doesn't matter");
         for (int v : new int[] {0, 6, 7, 96, 97, -1, LEAST, MOST}) {
-            SolvedChains x = made(2, true, 13);
+            SolvedChains x = Due.made(2, true, 13);
             x.set(1);
             is("act(0, " + v + ")", x.act(0, v), true);
             is("shifted", x.at(2), 1);
@@ -266,7 +251,7 @@ public final class EdgesOfVectorTest {
             is("about(7) behind " + acts, x.about(7), acts);
             for (int i = acts - 1; i >= 0; i--) {
                 is("undo", x.undo(), i);
-                is("at(0)", x.at(0), raised(2, i, 97));
+                is("at(0)", x.at(0), Due.raised(2, i, 97));
             }
             is("no more", x.undo(), NONE);
             is("the first vector", x.at(0), 1);
@@ -277,14 +262,14 @@ public final class EdgesOfVectorTest {
             is("about(7) behind " + acts, x.about(7), 20);
             for (int i = 19; i >= 0; i--) {
                 is("undo", x.undo(), i);
-                is("at(0)", x.at(0), raised(2, acts - 20 + i, 97));
+                is("at(0)", x.at(0), Due.raised(2, acts - 20 + i, 97));
             }
             is("no more", x.undo(), NONE);
-            is("the oldest that is kept", x.at(0), raised(2, acts - 20, 97));
+            is("the oldest that is kept", x.at(0), Due.raised(2, acts - 20, 97));
             is("all can be redone", x.about(8), 20);
             for (int i = 19; i >= 0; i--) {
                 is("redo", x.redo(), i);
-                is("at(0)", x.at(0), raised(2, acts - i, 97));
+                is("at(0)", x.at(0), Due.raised(2, acts - i, 97));
             }
             is("no more", x.redo(), NONE);
         }
@@ -292,7 +277,7 @@ public final class EdgesOfVectorTest {
 
     private static void undone() {
         DUE.sentence("27: The latest ACT is UNDONE: how many can be yet");
-        SolvedChains x = made(2, true, 97);
+        SolvedChains x = Due.made(2, true, 97);
         x.set(1);
         x.act(2, 0);
         x.act(1, 0);
@@ -399,7 +384,7 @@ public final class EdgesOfVectorTest {
 
     private static void played() {
         DUE.sentence("26: PLAYED by a TEXT: NONE: all is done");
-        SolvedChains x = made(3, true, 13);
+        SolvedChains x = Due.made(3, true, 13);
         Due.tell(x, "flip 0;");
         Due.tell(x, "shift;");
         Due.tell(x, "sum;");
@@ -432,7 +417,7 @@ public final class EdgesOfVectorTest {
 
     private static void playedInOrder() {
         DUE.sentence("V: its shift, flip, sum, table clauses as ACTS, in their order");
-        SolvedChains x = made(3, true, 13);
+        SolvedChains x = Due.made(3, true, 13);
         Due.tell(x, "a 2;flip 0;b 3;shift;c 5;sum;flip 2;table 4;");
         x.by(0);
         x.set(0);
@@ -459,24 +444,24 @@ public final class EdgesOfVectorTest {
         x.act(3, 4);
         vector("by hand", x, got);
         DUE.sentence("V: PLAYED: up to 20 of them are kept");
-        x = made(2, true, 97);
+        x = Due.made(2, true, 97);
         Due.tell(x, "sum;".repeat(30));
         x.set(0);
         is("played", x.played(0), NONE);
         is("about(7)", x.about(7), 20);
-        is("at(0)", x.at(0), raised(2, 30, 97));
+        is("at(0)", x.at(0), Due.raised(2, 30, 97));
         is("played again", x.played(0), NONE);
-        is("at(0)", x.at(0), raised(2, 60, 97));
+        is("at(0)", x.at(0), Due.raised(2, 60, 97));
         for (int i = 19; i >= 0; i--) {
             x.undo();
         }
-        is("the oldest", x.at(0), raised(2, 40, 97));
+        is("the oldest", x.at(0), Due.raised(2, 40, 97));
     }
 
     private static void playedUpTo() {
         DUE.sentence("26: else the number of the CLAUSE that can't be: its number among all CLAUSES (from 0)");
         for (int n = 2; n <= 6; n++) {
-            SolvedChains x = made(n, true, 13);
+            SolvedChains x = Due.made(n, true, 13);
             Due.tell(x, "flip " + (n - 1) + ";");
             Due.tell(x, "flip " + n + ";");
             Due.tell(x, "a 1;b 2;flip 0;c 3;flip " + n + ";flip 1;");
@@ -498,12 +483,12 @@ public final class EdgesOfVectorTest {
             is("one LETTER more", x.played(2), NONE);
             is("three ACTS", x.about(7), 3);
         }
-        SolvedChains x = made(2, true, 13);
+        SolvedChains x = Due.made(2, true, 13);
         Due.tell(x, "shift;".repeat(29) + "flip 2;");
         x.set(1);
         is("the thirtieth", x.played(0), 29);
         is("29 shifts", x.at(2), 1);
-        x = made(7, true, 13);
+        x = Due.made(7, true, 13);
         Due.tell(x, "flip 6;");
         x.set(0);
         is("LETTER 6 of seven", x.played(0), NONE);
@@ -531,7 +516,7 @@ public final class EdgesOfVectorTest {
 
     private static void playedOfOthers() {
         DUE.sentence("26: -2 for others");
-        SolvedChains x = made(3, true, 13);
+        SolvedChains x = Due.made(3, true, 13);
         is("played(0) of none", x.played(0), -2);
         for (int i = 0; i < 4; i++) {
             Due.tell(x, "sum;");
@@ -546,7 +531,7 @@ public final class EdgesOfVectorTest {
         x.image();
         x.back();
         is("of the image", x.played(3), NONE);
-        SolvedChains y = made(3, true, 13);
+        SolvedChains y = Due.made(3, true, 13);
         y.image();
         Due.tell(y, "sum;");
         y.back();
@@ -556,7 +541,7 @@ public final class EdgesOfVectorTest {
     private static void at() {
         DUE.sentence("29: THE VECTOR at a STATE. NONE for others");
         for (int n = 2; n <= 7; n++) {
-            SolvedChains x = made(n, true, 13);
+            SolvedChains x = Due.made(n, true, 13);
             int last = (1 << n) - 1;
             x.set(last);
             is("the last of " + n, x.at(last), 1);
@@ -570,7 +555,7 @@ public final class EdgesOfVectorTest {
         Twin.leavesAll(DUE, "at(128)", x -> x.at(128), NONE);
         Twin.leavesAll(DUE, "at(-1)", x -> x.at(-1), NONE);
         DUE.sentence("29: fewer LETTERS, then more: nothing of before is there");
-        SolvedChains x = made(7, true, 13);
+        SolvedChains x = Due.made(7, true, 13);
         x.set(127);
         x.act(0, 0);
         x.act(1, 0);
@@ -590,7 +575,7 @@ public final class EdgesOfVectorTest {
 
     private static void norm() {
         DUE.sentence("30: All products of THE VECTOR at a STATE with itself, together (by P)");
-        SolvedChains x = made(3, true, 13);
+        SolvedChains x = Due.made(3, true, 13);
         is("of 0", x.norm(), 0);
         x.set(7);
         is("of 1", x.norm(), 1);
@@ -600,7 +585,7 @@ public final class EdgesOfVectorTest {
         is("144 + 1 + 1", x.norm(), 146 % 13);
         x.prime(5);
         is("2, 1, 1 by 5", x.norm(), 6 % 5);
-        x = made(7, true, 97);
+        x = Due.made(7, true, 97);
         x.numbers(1, 96);
         x.set(3);
         for (int i = 0; i < 5; i++) {
@@ -611,7 +596,7 @@ public final class EdgesOfVectorTest {
             all += (long) x.at(s) * x.at(s);
         }
         is("of seven letters", x.norm(), all % 97);
-        x = made(2, true, 5);
+        x = Due.made(2, true, 5);
         x.set(1);
         x.act(2, 0);
         x.act(1, 0);
@@ -622,16 +607,16 @@ public final class EdgesOfVectorTest {
 
     private static void power() {
         DUE.sentence("V: POWER j (0 .. 99): how much of y comes of x by THE SUM j times");
-        SolvedChains x = made(2, true, 97);
+        SolvedChains x = Due.made(2, true, 97);
         x.numbers(1, 3);
         for (int j = 0; j <= 99; j++) {
-            is("power(0, " + j + ", 0)", x.power(0, j, 0), raised(6, j, 97));
-            is("power(1, " + j + ", 1)", x.power(1, j, 1), j % 2 == 0 ? raised(2, j, 97) : 0);
-            is("power(1, " + j + ", 2)", x.power(1, j, 2), j % 2 == 1 ? raised(2, j, 97) : 0);
+            is("power(0, " + j + ", 0)", x.power(0, j, 0), Due.raised(6, j, 97));
+            is("power(1, " + j + ", 1)", x.power(1, j, 1), j % 2 == 0 ? Due.raised(2, j, 97) : 0);
+            is("power(1, " + j + ", 2)", x.power(1, j, 2), j % 2 == 1 ? Due.raised(2, j, 97) : 0);
         }
         DUE.sentence("V: POWER 0: it stays where it is");
         for (int n = 2; n <= 7; n++) {
-            SolvedChains y = made(n, n % 2 == 0, 13);
+            SolvedChains y = Due.made(n, n % 2 == 0, 13);
             y.numbers(1, 0);
             int last = (1 << n) - 1;
             is("0", y.power(0, 0, 0), 1);
@@ -640,7 +625,7 @@ public final class EdgesOfVectorTest {
             is("the last, power 1 with D 0", y.power(last, 1, last), 0);
         }
         DUE.sentence("V: POWER 1 is SUM(x, y)");
-        SolvedChains y = made(3, false, 13);
+        SolvedChains y = Due.made(3, false, 13);
         y.numbers(1, 7);
         for (int s = 0; s < 8; s++) {
             for (int t = 0; t < 8; t++) {
@@ -652,7 +637,7 @@ public final class EdgesOfVectorTest {
     private static void powerOfOthers() {
         DUE.sentence("31: NONE for others");
         for (int n = 2; n <= 7; n++) {
-            SolvedChains x = made(n, n % 2 == 0, 13);
+            SolvedChains x = Due.made(n, n % 2 == 0, 13);
             int last = (1 << n) - 1;
             is("power(last, 99, 0)", x.power(last, 99, 0), 0);
             is("power(0, 99, last)", x.power(0, 99, last), 0);
@@ -685,7 +670,7 @@ public final class EdgesOfVectorTest {
             is("about(1)", x.about(1), n % 2 == 0 ? 1 : 0);
         }
         DUE.sentence("32: the latest one counts");
-        SolvedChains x = made(2, true, 97);
+        SolvedChains x = Due.made(2, true, 97);
         x.set(1);
         x.image();
         x.set(2);
@@ -712,7 +697,7 @@ public final class EdgesOfVectorTest {
 
     /** An image of all kinds of things, and then everything else. */
     private static SolvedChains changed() {
-        SolvedChains x = made(3, false, 97);
+        SolvedChains x = Due.made(3, false, 97);
         x.numbers(50, 60);
         Due.tell(x, "a 7;");
         Due.tell(x, "a 8;");
@@ -761,7 +746,7 @@ public final class EdgesOfVectorTest {
 
     private static void imageKeepsNot() {
         DUE.sentence("V: AN IMAGE: all but the tape");
-        SolvedChains x = made(2, true, 97);
+        SolvedChains x = Due.made(2, true, 97);
         Due.feed(x, "sum;");
         x.image();
         Due.feed(x, "shift;");
@@ -781,7 +766,7 @@ public final class EdgesOfVectorTest {
         x.back();
         is("ended behind the image", x.about(9), 0);
         DUE.sentence("V: AN IMAGE: all but the latest FAULT");
-        x = made(2, true, 97);
+        x = Due.made(2, true, 97);
         x.image();
         Due.tell(x, "a 1;a");
         x.back();
@@ -792,7 +777,7 @@ public final class EdgesOfVectorTest {
         x.back();
         is("fault(0) without", x.fault(0), 0);
         is("fault(1) without", x.fault(1), NONE);
-        x = made(2, true, 97);
+        x = Due.made(2, true, 97);
         Due.tell(x, "");
         x.back();
         is("behind the first image: not ahead of any", x.fault(0), 0);
@@ -800,7 +785,7 @@ public final class EdgesOfVectorTest {
 
     private static void imageOfTexts() {
         DUE.sentence("V: TEXTS told behind it are gone behind going back");
-        SolvedChains x = made(2, true, 97);
+        SolvedChains x = Due.made(2, true, 97);
         Due.tell(x, "c 10;");
         x.image();
         for (int i = 1; i < 4; i++) {
@@ -827,7 +812,7 @@ public final class EdgesOfVectorTest {
         is("TABLE of the newer one", x.table(0, 1, 2), 900 % 97);
         is("EQUATION of the newer one", x.equation(1), 0);
         DUE.sentence("V: TEXTS told ahead of it stay, all 4 too");
-        x = made(2, true, 97);
+        x = Due.made(2, true, 97);
         for (int i = 0; i < 4; i++) {
             Due.tell(x, "c 1" + i + ";");
         }
@@ -861,15 +846,15 @@ public final class EdgesOfVectorTest {
                 x.back();
                 is("about(7)", x.about(7), 20 - undone);
                 is("about(8)", x.about(8), undone);
-                is("at(0)", x.at(0), raised(2, 27 - undone, 97));
+                is("at(0)", x.at(0), Due.raised(2, 27 - undone, 97));
                 for (int i = 0; i < undone; i++) {
                     x.redo();
                 }
-                is("the latest", x.at(0), raised(2, 27, 97));
+                is("the latest", x.at(0), Due.raised(2, 27, 97));
                 for (int i = 0; i < 20; i++) {
                     x.undo();
                 }
-                is("the oldest", x.at(0), raised(2, 7, 97));
+                is("the oldest", x.at(0), Due.raised(2, 7, 97));
                 is("no more", x.undo(), NONE);
             }
         }
@@ -917,7 +902,7 @@ public final class EdgesOfVectorTest {
 
     private static void about() {
         DUE.sentence("34: 0 n, 1 RING, 2 P, 3 ETA, 4 D, 5 TEXTS, 6 THE TEXT, 7 UNDONE, 8 REDONE, 9 the tape");
-        SolvedChains x = made(5, false, 17);
+        SolvedChains x = Due.made(5, false, 17);
         x.numbers(16, 15);
         Due.tell(x, "");
         Due.tell(x, "");
